@@ -1,0 +1,268 @@
+import java.util.ArrayList;
+import java.util.List;
+
+/** Holds the program against the model over long runs of calls that are drawn by a fixed rule. */
+public final class AgainstModelTest {
+    private static final int RUNS = 400;
+    private static final int CALLS = 250;
+    private static final int MOST_SHOWN = 20;
+
+    private static int wrong;
+    private static final int[] answeredWell = new int[22];
+
+    private final int run;
+    private long seed;
+    private final OxbowReaches program = new OxbowReaches();
+    private final Model model = new Model();
+    private final List<String> calls = new ArrayList<>();
+
+    private AgainstModelTest(int run) {
+        this.run = run;
+        this.seed = 1000003L * run + 17;
+    }
+
+    public static void main(String[] args) {
+        for (int run = 0; run < RUNS && wrong == 0; run++) {
+            new AgainstModelTest(run).play();
+        }
+        for (int call = 0; call < answeredWell.length; call++) {
+            if (wrong == 0 && answeredWell[call] == 0) {
+                wrong++;
+                System.out.println("no run had an answer of call " + call + " that is no error");
+            }
+        }
+        if (wrong != 0) {
+            System.exit(1);
+        }
+    }
+
+    private int draw(int bound) {
+        seed = seed * 6364136223846793005L + 1442695040888963407L;
+        return (int) ((seed >>> 33) % bound);
+    }
+
+    private int draw(int low, int high) {
+        return low + draw(high - low + 1);
+    }
+
+    private boolean drawYes(int percent) {
+        return draw(100) < percent;
+    }
+
+    private void due(int kind, String call, int got, int want) {
+        calls.add(call + " = " + want);
+        if (want >= 0) {
+            answeredWell[kind]++;
+        }
+        if (got != want) {
+            wrong++;
+            if (wrong == 1) {
+                calls.forEach(System.out::println);
+            }
+            if (wrong <= MOST_SHOWN) {
+                System.out.println("run " + run + ": " + call + " answered " + got + ", due is " + want);
+            }
+        }
+    }
+
+    private void play() {
+        if (drawYes(60)) {
+            int setting = draw(4);
+            int value = new int[] {9, 60, 20, 50}[setting];
+            due(0, "set " + setting + " " + value, program.set(setting, value), model.set(setting, value));
+        }
+        if (drawYes(80)) {
+            putText(course());
+            read();
+        }
+        for (int k = 0; k < CALLS && wrong == 0; k++) {
+            change();
+            ask();
+            if (k % 25 == 24) {
+                sweep();
+            }
+        }
+    }
+
+    private void read() {
+        due(1, "read", program.read(), model.read());
+    }
+
+    private void change() {
+        int kind = draw(100);
+        if (kind < 8) {
+            int setting = draw(-1, 4);
+            int value = drawYes(80) ? draw(1, 9) : draw(-1, 62);
+            due(0, "set " + setting + " " + value, program.set(setting, value), model.set(setting, value));
+        } else if (kind < 14) {
+            changeText();
+        } else if (kind < 24) {
+            int x = draw(-1, 20);
+            int y = draw(-1, 12);
+            boolean isBuilt = drawYes(60);
+            due(2, "dike " + x + " " + y + " " + isBuilt, program.dike(x, y, isBuilt), model.dike(x, y, isBuilt));
+        } else if (kind < 36) {
+            int year = drawYes(95) ? model.now.year + draw(-1, 6) : draw(-1, 1001);
+            boolean isFlood = drawYes(70);
+            due(3, "flood " + year + " " + isFlood, program.flood(year, isFlood), model.flood(year, isFlood));
+        } else if (kind < 46) {
+            int neck = draw(-1, model.now.necks().size());
+            due(4, "cut " + neck, program.cut(neck), model.cut(neck));
+        } else if (kind < 80) {
+            int years = drawYes(90) ? draw(1, 3) : draw(-1, 51);
+            due(5, "pass " + years, program.pass(years), model.pass(years));
+        } else if (kind < 88) {
+            due(19, "undo", program.undo(), model.undo());
+        } else if (kind < 93) {
+            int slot = draw(-1, 2);
+            due(20, "save " + slot, program.save(slot), model.save(slot));
+        } else if (kind < 97) {
+            int slot = draw(-1, 2);
+            due(21, "restore " + slot, program.restore(slot), model.restore(slot));
+        } else {
+            putText(course());
+            read();
+        }
+    }
+
+    private void changeText() {
+        int kind = draw(10);
+        if (kind < 2) {
+            due(17, "wipe", program.wipe(), model.wipe());
+        } else if (kind < 4) {
+            long characters = (long) draw(1 << 30) << draw(40) ^ draw(1 << 30);
+            due(16, "put " + characters, program.put(characters), model.put(characters));
+        } else if (kind < 8) {
+            putText(spoiled(course()));
+            read();
+        } else {
+            read();
+        }
+        due(18, "fault", program.fault(), model.fault());
+    }
+
+    private void putText(String text) {
+        due(17, "wipe", program.wipe(), model.wipe());
+        int k = 0;
+        while (k < text.length()) {
+            long characters = 0;
+            int end = Math.min(text.length(), k + draw(1, 8));
+            for (; k < end; k++) {
+                characters = characters << 8 | text.charAt(k);
+            }
+            due(16, "put " + characters, program.put(characters), model.put(characters));
+        }
+        due(18, "fault of " + text, program.fault(), model.fault());
+    }
+
+    private String spoiled(String text) {
+        StringBuilder spoiled = new StringBuilder(text);
+        int place = draw(text.length());
+        switch (draw(3)) {
+            case 0 -> spoiled.setCharAt(place, "0123456789,:ruldx/".charAt(draw(18)));
+            case 1 -> spoiled.insert(place, "0123456789,:ruld".charAt(draw(16)));
+            default -> spoiled.setLength(place);
+        }
+        return spoiled.toString();
+    }
+
+    /** Draws a text of a course that winds much, mostly one that the land has room for. */
+    private String course() {
+        if (drawYes(15)) {
+            return snake();
+        }
+        Model.Cell cell = new Model.Cell(draw(0, 19), draw(0, 11));
+        List<Model.Cell> seen = new ArrayList<>(List.of(cell));
+        StringBuilder text = new StringBuilder(cell.x() + "," + cell.y() + ":");
+        int longest = draw(1, 5);
+        for (int k = 0; k < 60 && text.length() <= 60; k++) {
+            int way = draw(4);
+            int steps = draw(1, longest);
+            int walked = 0;
+            for (int s = 0; s < steps; s++) {
+                Model.Cell next = cell.step(way);
+                if (!next.isOnLand() || seen.contains(next)) {
+                    break;
+                }
+                seen.add(next);
+                cell = next;
+                walked++;
+            }
+            if (walked > 0) {
+                text.append("ruld".charAt(way)).append(walked > 1 ? String.valueOf(walked) : "");
+            }
+        }
+        if (text.charAt(text.length() - 1) == ':') {
+            text.append("r");
+        }
+        return text.toString();
+    }
+
+    /** Rows to and fro, close to each other: many necks, and nearly as many cells as a course may have. */
+    private String snake() {
+        int left = draw(0, 3);
+        int wide = draw(9, 18 - left);
+        int rows = draw(2, 8);
+        StringBuilder text = new StringBuilder(left + "," + draw(0, 3) + ":");
+        for (int row = 0; row < rows; row++) {
+            String way = row % 2 == 0 ? "r" : "l";
+            int rest = wide;
+            while (rest > 0) {
+                int steps = Math.min(9, rest);
+                text.append(way).append(steps > 1 ? String.valueOf(steps) : "");
+                rest -= steps;
+            }
+            text.append("u");
+        }
+        return text.toString();
+    }
+
+    private void ask() {
+        int kind = draw(100);
+        if (kind < 10) {
+            int years = drawYes(90) ? draw(1, 12) : draw(-1, 52);
+            int what = draw(-1, 4);
+            due(13, "ifPassed " + years + " " + what, program.ifPassed(years, what), model.ifPassed(years, what));
+        } else if (kind < 16) {
+            int what = draw(-1, 2);
+            due(14, "nextCut " + what, program.nextCut(what), model.nextCut(what));
+        } else if (kind < 22) {
+            int x = draw(-1, 20);
+            int y = draw(-1, 12);
+            due(15, "taken " + x + " " + y, program.taken(x, y), model.taken(x, y));
+        } else {
+            int what = draw(-1, 18);
+            due(11, "count " + what, program.count(what), model.count(what));
+        }
+    }
+
+    private void sweep() {
+        for (int what = -1; what <= 18; what++) {
+            due(11, "count " + what, program.count(what), model.count(what));
+        }
+        for (int what = -1; what <= 4; what++) {
+            for (int y = -1; y <= 12; y++) {
+                for (int x = -1; x <= 20; x++) {
+                    due(6, "cell " + x + " " + y + " " + what, program.cell(x, y, what), model.cell(x, y, what));
+                }
+            }
+            for (int number = -1; number <= 151; number++) {
+                due(7, "course " + number + " " + what, program.course(number, what), model.course(number, what));
+            }
+            for (int number = -1; number <= 13; number++) {
+                due(10, "oxbow " + number + " " + what, program.oxbow(number, what), model.oxbow(number, what));
+            }
+        }
+        for (int what = -1; what <= 6; what++) {
+            for (int number = -1; number <= model.now.bends().size(); number++) {
+                due(8, "bend " + number + " " + what, program.bend(number, what), model.bend(number, what));
+            }
+            for (int number = -1; number <= model.now.necks().size(); number++) {
+                due(9, "neck " + number + " " + what, program.neck(number, what), model.neck(number, what));
+            }
+        }
+        for (int year = model.now.year - 3; year <= model.now.year + 8; year++) {
+            due(12, "isFlood " + year, program.isFlood(year), model.isFlood(year));
+        }
+    }
+}
