@@ -321,6 +321,12 @@ public final class PromisesTest {
         dueOxbow(x, 1, 2, 0, 5, 6);
         due("no neck is left", x.cut(0), NO_SUCH);
         dueCounts(x, 8, 2);
+
+        x = river(FULL);
+        dueNeck(x, 0, 0, 39, 0);
+        due("cut of the longest course", x.cut(0), 112);
+        dueCourse(x, 0, 0, 0, 0, 1, 0, 2, 1, 2);
+        dueOxbow(x, 0, 38, 0, 1, 0);
     }
 
     private static void passErrors() {
@@ -359,6 +365,10 @@ public final class PromisesTest {
         due("in a flood", x.cell(6, 1, 1), 6);
         x.pass(1);
         due("after it", x.cell(6, 1, 1), 8);
+
+        x = river("3,0:l2u2r2");
+        x.pass(1);
+        due("the sum has the corner's wear, too", x.count(11), 6);
 
         x = river(HILL);
         x.set(1, 60);
@@ -483,6 +493,27 @@ public final class PromisesTest {
         dueOxbow(x, 0, 4, 1, 2, 6);
         dueOxbow(x, 1, 4, 1, 6, 6);
         due("count(0)", x.count(0), 10);
+
+        x = river("0,5:r2urdr3u2rd2r2");
+        x.set(1, 60);
+        x.set(2, 1);
+        due("pass(1)", x.pass(1), 2);
+        dueOxbow(x, 0, 4, 1, 6, 6);
+        dueOxbow(x, 1, 2, 1, 2, 6);
+
+        // The wide necks below come a year later than the narrow one at (2, 9), (1, 9): only this one is due.
+        x = river("0,5:r2u2r2d2r2u4l4uldl");
+        x.dike(5, 4, true);
+        x.dike(7, 7, true);
+        x.set(0, 3);
+        x.set(2, 2);
+        due("pass(2)", x.pass(2), 1);
+        dueOxbow(x, 0, 4, 1, 2, 10);
+        due("count(3)", x.count(3), 3);
+        due("age", x.neck(0, 2), 1);
+        due("one of the three cuts off the others", x.pass(1), 1);
+        due("only the cuts of this year", x.count(8), 2);
+        dueOxbow(x, 1, 14, 1, 3, 8);
     }
 
     private static void passInFlood() {
@@ -673,7 +704,19 @@ public final class PromisesTest {
         dueBend(river("3,2:d2r2u2"), 0, 2, 4, DOWN, 1, NONE, 0);
         dueBend(river("2,3:l2u2r2"), 0, 2, 4, LEFT, 1, NONE, 0);
         dueBend(river("17,3:r2u2l2"), 0, 2, 4, RIGHT, 1, NONE, 0);
-        OxbowReaches x = river("0,5:r2u2r2d2r2u3l6");
+        OxbowReaches x = river(HILL);
+        x.dike(5, 9, true);
+        dueBend(x, 0, 8, 11, UP, 1, NONE, 0);
+        x.dike(5, 9, false);
+        x.dike(8, 9, true);
+        dueBend(x, 0, 8, 11, UP, 1, NONE, 0);
+        x = river("0,2:r3u2r2d2r3u6l4d2lu2l3");
+        x.pass(1);
+        due("least wear at the last cell", x.bend(0, 4), 2);
+        x = river("0,2:r3u2r2d2r3u6l3d2lu2l3");
+        x.pass(1);
+        due("least wear at the first cell", x.bend(0, 4), 2);
+        x = river("0,5:r2u2r2d2r2u3l6");
         dueBend(x, 0, 4, 6, UP, 1, NONE, 0);
         due("count(1)", x.count(1), 3);
         due("count(2)", x.count(2), 1);
