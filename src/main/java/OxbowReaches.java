@@ -11,7 +11,7 @@ public final class OxbowReaches {
     private static final int WIDTH = 20;
     private static final int HEIGHT = 12;
     private static final int LAND = WIDTH * HEIGHT;
-    // Each cell owns the pair with the cell to its right and the one with the cell above it.
+    // Each cell owns its pairs with the cell to its right and with the one above it: so the ways 0 and 1.
     private static final int PAIRS = 2 * LAND;
     private static final int FIRST_ROW = 6;
     private static final int LONGEST = 150;
@@ -791,7 +791,6 @@ public final class OxbowReaches {
         private final int[] wear = new int[LAND];
         private final int[] dikes = new int[LAND];
         private final int[] ages = new int[PAIRS];
-        private final int[] olderAges = new int[PAIRS];
         private final int[] floods = new int[MOST_FLOODS];
         private int floodCount;
         private int year;
@@ -955,34 +954,33 @@ public final class OxbowReaches {
             growthCount++;
         }
 
-        /** Answers the place of the age of two neighbours of the course, or OFF. */
-        private int pairOf(int number, int other) {
+        int ageOf(int number, int other) {
             int cell = course.cellOf(number);
             int otherCell = course.cellOf(other);
-            if (cell == OFF || otherCell == OFF) {
-                return OFF;
-            }
-            int isAbove = Math.abs(cell - otherCell) == WIDTH ? 1 : 0;
-            return 2 * Math.min(cell, otherCell) + isAbove;
-        }
-
-        int ageOf(int number, int other) {
-            int pair = pairOf(number, other);
+            int way = Math.abs(cell - otherCell) == WIDTH ? UP : RIGHT;
+            int pair = pairOf(Math.min(cell, otherCell), way);
             return pair >= 0 && pair < PAIRS ? ages[pair] : 0;
         }
 
         void agePairs() {
-            System.arraycopy(ages, 0, olderAges, 0, PAIRS);
-            Arrays.fill(ages, 0);
-            for (int number = 0; number < course.length(); number++) {
-                for (int way = 0; way < WAYS; way++) {
-                    int other = course.numberBeside(number, way);
-                    int pair = other >= number + NECK_REACH ? pairOf(number, other) : OFF;
-                    if (pair >= 0 && pair < PAIRS) {
-                        ages[pair] = olderAges[pair] + 1;
-                    }
-                }
+            for (int cell = 0; cell < LAND; cell++) {
+                agePair(cell, RIGHT);
+                agePair(cell, UP);
             }
+        }
+
+        private void agePair(int cell, int way) {
+            int number = course.numberOf(cell);
+            int other = course.numberOf(beside(cell, way));
+            boolean isNeck = number != OFF && other != OFF && Math.abs(number - other) >= NECK_REACH;
+            int pair = pairOf(cell, way);
+            if (pair >= 0 && pair < PAIRS) {
+                ages[pair] = isNeck ? ages[pair] + 1 : 0;
+            }
+        }
+
+        private static int pairOf(int cell, int way) {
+            return 2 * cell + way;
         }
 
         void cutBetween(int from, int to) {

@@ -281,7 +281,9 @@ final class Model {
         }
         int comma = pad.indexOf(',');
         int colon = pad.indexOf(':');
-        Cell cell = new Cell(Integer.parseInt(pad.substring(0, comma)), Integer.parseInt(pad.substring(comma + 1, colon)));
+        int x = Integer.parseInt(pad.substring(0, comma));
+        int y = Integer.parseInt(pad.substring(comma + 1, colon));
+        Cell cell = new Cell(x, y);
         String steps = pad.substring(colon + 1);
         StringBuilder spelled = new StringBuilder();
         for (char sign : steps.toCharArray()) {

@@ -1,135 +1,7 @@
 /** The promises one by one, with answers that were worked out by hand from the document. */
-public final class PromisesTest {
-    private static final int NO_SUCH = -1, BAD_VALUE = -2, BAD_TEXT = -3, TOO_MANY = -4, NOT_POSSIBLE = -5, NONE = -6;
-    private static final int RIGHT = 0, UP = 1, LEFT = 2, DOWN = 3;
-
-    /** One bend, numbers 8 to 11, that grows up: its bank is (5, 9) to (8, 9). */
-    private static final String HILL = "0,5:r5u3r3d3r5";
-    /** One bend of two cells, 8 and 9, with the bank (5, 9), (6, 9), and three necks below it. */
-    private static final String LOOP = "0,5:r5u3rd3r5";
-    /** Two loops with two necks each: 2 to 7, 3 to 6, 10 to 15 and 11 to 14. */
-    private static final String TWINS = "0,5:r2u2rd2r3u2rd2r2";
-    /** Two bends that share the bank (3, 5) to (5, 5), and three more. */
-    private static final String FACING = "0,2:r3u2r2d2r3u6l3d2l2u2l2";
-    /** Seven rows of 20 cells each, and ten cells of the next. */
-    private static final String FULL = "0,0:r9r9rul9l9lur9r9rul9l9lur9r9rul9l9lur9r9rul9";
-
-    private static int wrong;
-    private static String promise = "";
-
+public final class PromisesTest extends Checks {
     public static void main(String[] args) {
-        newObject();
-        set();
-        read();
-        readResets();
-        dike();
-        flood();
-        cut();
-        passErrors();
-        passWears();
-        passGrows();
-        passGrowsAlongTheCourse();
-        passStopsAtTheLongestCourse();
-        passCuts();
-        passCutsTheWidestFirst();
-        passInFlood();
-        passSilts();
-        passTakesBack();
-        oxbowLimit();
-        cell();
-        course();
-        bend();
-        bendKinds();
-        neck();
-        oxbow();
-        count();
-        isFlood();
-        ifPassed();
-        nextCut();
-        taken();
-        put();
-        wipe();
-        fault();
-        undo();
-        save();
-        restore();
-        if (wrong != 0) {
-            System.out.println(wrong + " answers are not as due");
-            System.exit(1);
-        }
-    }
-
-    private static void start(String name) {
-        promise = name;
-    }
-
-    private static void due(String call, int got, int want) {
-        if (got != want) {
-            wrong++;
-            System.out.println(promise + ": " + call + " answered " + got + ", due is " + want);
-        }
-    }
-
-    private static void putText(OxbowReaches x, String text) {
-        x.wipe();
-        for (int k = 0; k < text.length(); k++) {
-            x.put(text.charAt(k));
-        }
-    }
-
-    private static int readText(OxbowReaches x, String text) {
-        putText(x, text);
-        return x.read();
-    }
-
-    private static OxbowReaches river(String text) {
-        OxbowReaches x = new OxbowReaches();
-        if (readText(x, text) < 2) {
-            wrong++;
-            System.out.println(promise + ": no course is read from " + text);
-        }
-        return x;
-    }
-
-    /** A text of at most eight characters as the number that put takes. */
-    private static long packed(String text) {
-        long characters = 0;
-        for (int k = 0; k < text.length(); k++) {
-            characters = characters * 256 + text.charAt(k);
-        }
-        return characters;
-    }
-
-    private static void dueCounts(OxbowReaches x, int first, int... wanted) {
-        for (int k = 0; k < wanted.length; k++) {
-            due("count(" + (first + k) + ")", x.count(first + k), wanted[k]);
-        }
-    }
-
-    private static void dueCourse(OxbowReaches x, int first, int... wanted) {
-        for (int k = 0; k + 1 < wanted.length; k += 2) {
-            int number = first + k / 2;
-            due("course(" + number + ", 0)", x.course(number, 0), wanted[k]);
-            due("course(" + number + ", 1)", x.course(number, 1), wanted[k + 1]);
-        }
-    }
-
-    private static void dueBend(OxbowReaches x, int bend, int... wanted) {
-        for (int what = 0; what < wanted.length; what++) {
-            due("bend(" + bend + ", " + what + ")", x.bend(bend, what), wanted[what]);
-        }
-    }
-
-    private static void dueNeck(OxbowReaches x, int neck, int... wanted) {
-        for (int what = 0; what < wanted.length; what++) {
-            due("neck(" + neck + ", " + what + ")", x.neck(neck, what), wanted[what]);
-        }
-    }
-
-    private static void dueOxbow(OxbowReaches x, int oxbow, int... wanted) {
-        for (int what = 0; what < wanted.length; what++) {
-            due("oxbow(" + oxbow + ", " + what + ")", x.oxbow(oxbow, what), wanted[what]);
-        }
+        runAll(PromisesTest.class);
     }
 
     private static void newObject() {
@@ -140,7 +12,10 @@ public final class PromisesTest {
             dueCourse(x, k, k, 6);
             due("course(way)", x.course(k, 2), k == 19 ? NONE : RIGHT);
         }
+        due("restore(0)", x.restore(0), NOT_POSSIBLE);
+        due("restore(1)", x.restore(1), NOT_POSSIBLE);
         for (int y = 0; y < 12; y++) {
+            x = new OxbowReaches();
             for (int k = 0; k < 20; k++) {
                 due("cell(number)", x.cell(k, y, 0), y == 6 ? k : NONE);
                 due("cell(wear)", x.cell(k, y, 1), 0);
@@ -148,8 +23,6 @@ public final class PromisesTest {
                 due("cell(oxbow)", x.cell(k, y, 3), NONE);
             }
         }
-        due("restore(0)", x.restore(0), NOT_POSSIBLE);
-        due("restore(1)", x.restore(1), NOT_POSSIBLE);
     }
 
     private static void set() {
