@@ -3,8 +3,12 @@ import java.util.List;
 
 /** Holds the program against the model over long runs of calls that are drawn by a fixed rule. */
 public final class AgainstModelTest {
-    private static final int RUNS = 400;
-    private static final int CALLS = 250;
+    private static final int RUNS = 1200;
+    // Behind the 512th call what an object answers is free.
+    private static final int CALLS = 512;
+    // A change may take the calls that put a whole text, 64 of one character each and three more.
+    private static final int CALLS_OF_A_CHANGE = 67;
+    private static final int QUESTIONS_BEHIND_A_CHANGE = 5;
     private static final int MOST_SHOWN = 20;
 
     private static int wrong;
@@ -75,12 +79,14 @@ public final class AgainstModelTest {
             putText(course());
             read();
         }
-        for (int k = 0; k < CALLS && wrong == 0; k++) {
+        while (calls.size() + CALLS_OF_A_CHANGE + QUESTIONS_BEHIND_A_CHANGE <= CALLS && wrong == 0) {
             change();
-            ask();
-            if (k % 25 == 24) {
-                sweep();
+            for (int k = 0; k < QUESTIONS_BEHIND_A_CHANGE; k++) {
+                ask();
             }
+        }
+        while (calls.size() < CALLS && wrong == 0) {
+            ask();
         }
     }
 
@@ -219,50 +225,50 @@ public final class AgainstModelTest {
 
     private void ask() {
         int kind = draw(100);
-        if (kind < 10) {
+        if (kind < 4) {
             int years = drawYes(90) ? draw(1, 12) : draw(-1, 52);
             int what = draw(-1, 4);
             due(13, "ifPassed " + years + " " + what, program.ifPassed(years, what), model.ifPassed(years, what));
-        } else if (kind < 16) {
+        } else if (kind < 7) {
             int what = draw(-1, 2);
             due(14, "nextCut " + what, program.nextCut(what), model.nextCut(what));
-        } else if (kind < 22) {
+        } else if (kind < 10) {
             int x = draw(-1, 20);
             int y = draw(-1, 12);
             due(15, "taken " + x + " " + y, program.taken(x, y), model.taken(x, y));
-        } else {
+        } else if (kind < 15) {
+            int year = drawYes(95) ? model.now.year + draw(-8, 8) : draw(-1, 1000);
+            due(12, "isFlood " + year, program.isFlood(year), model.isFlood(year));
+        } else if (kind < 35) {
             int what = draw(-1, 18);
             due(11, "count " + what, program.count(what), model.count(what));
+        } else {
+            askOfAPlace(kind);
         }
     }
 
-    private void sweep() {
-        for (int what = -1; what <= 18; what++) {
-            due(11, "count " + what, program.count(what), model.count(what));
-        }
-        for (int what = -1; what <= 4; what++) {
-            for (int y = -1; y <= 12; y++) {
-                for (int x = -1; x <= 20; x++) {
-                    due(6, "cell " + x + " " + y + " " + what, program.cell(x, y, what), model.cell(x, y, what));
-                }
-            }
-            for (int number = -1; number <= 151; number++) {
-                due(7, "course " + number + " " + what, program.course(number, what), model.course(number, what));
-            }
-            for (int number = -1; number <= 13; number++) {
-                due(10, "oxbow " + number + " " + what, program.oxbow(number, what), model.oxbow(number, what));
-            }
-        }
-        for (int what = -1; what <= 6; what++) {
-            for (int number = -1; number <= model.now.bends().size(); number++) {
-                due(8, "bend " + number + " " + what, program.bend(number, what), model.bend(number, what));
-            }
-            for (int number = -1; number <= model.now.necks().size(); number++) {
-                due(9, "neck " + number + " " + what, program.neck(number, what), model.neck(number, what));
-            }
-        }
-        for (int year = model.now.year - 3; year <= model.now.year + 8; year++) {
-            due(12, "isFlood " + year, program.isFlood(year), model.isFlood(year));
+    private void askOfAPlace(int kind) {
+        if (kind < 55) {
+            int x = draw(-1, 20);
+            int y = draw(-1, 12);
+            int what = draw(-1, 4);
+            due(6, "cell " + x + " " + y + " " + what, program.cell(x, y, what), model.cell(x, y, what));
+        } else if (kind < 65) {
+            int number = draw(-1, model.now.course.size());
+            int what = draw(-1, 3);
+            due(7, "course " + number + " " + what, program.course(number, what), model.course(number, what));
+        } else if (kind < 78) {
+            int number = draw(-1, model.now.bends().size());
+            int what = draw(-1, 6);
+            due(8, "bend " + number + " " + what, program.bend(number, what), model.bend(number, what));
+        } else if (kind < 90) {
+            int number = draw(-1, model.now.necks().size());
+            int what = draw(-1, 3);
+            due(9, "neck " + number + " " + what, program.neck(number, what), model.neck(number, what));
+        } else {
+            int number = draw(-1, model.now.oxbows.size());
+            int what = draw(-1, 4);
+            due(10, "oxbow " + number + " " + what, program.oxbow(number, what), model.oxbow(number, what));
         }
     }
 }

@@ -140,6 +140,22 @@ public final class AnswersTest extends Checks {
 
     // ---- promise 11
 
+    static void neckAnswers() {
+        sentence("- `what`: 0 i, 1 j, 2 its age");
+        OxbowReaches x = stillRiver(TWINS);
+        dueNeck(x, 0, 2, 7, 0);
+        dueNeck(x, 3, 11, 14, 0);
+        x.pass(19);
+        dueNeck(x, 0, 2, 7, 19);
+        dueNeck(x, 3, 11, 14, 19);
+        // A cut changes the numbers of the necks behind it, and not their ages.
+        x.cut(0);
+        dueNeck(x, 0, 6, 11, 19);
+        dueNeck(x, 1, 7, 10, 19);
+        // The oldest one: no flood comes, NECK is 20, and the next year cuts it.
+        due(x.nextCut(0), 0);
+    }
+
     static void neckErrorsInTheirOrder() {
         sentence("Returns the number; NO_SUCH if there is no such neck; BAD_VALUE if what is out of range.");
         OxbowReaches x = new OxbowReaches();

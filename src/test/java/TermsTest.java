@@ -29,6 +29,39 @@ public final class TermsTest extends Checks {
         due(x.undo(), -5);
     }
 
+    static void theFirstErrorThatAppliesIsReturned() {
+        sentence("it names its errors in the order in which they are checked, and the first one "
+            + "that applies is returned.");
+        OxbowReaches x = new OxbowReaches();
+        passToTheLastYear(x);
+        // In each call two or three apply.
+        due(readText(x, "0,0:" + "l9".repeat(29) + "l1"), BAD_TEXT);
+        due(readText(x, "0,0:" + "l9".repeat(30)), TOO_MANY);
+        due(x.flood(0, false), BAD_VALUE);
+        due(x.pass(51), BAD_VALUE);
+        due(x.cell(20, 12, 4), NO_SUCH);
+        due(x.course(20, 3), NO_SUCH);
+        due(x.bend(0, 6), NO_SUCH);
+        due(x.neck(0, 3), NO_SUCH);
+        due(x.oxbow(0, 4), NO_SUCH);
+        due(x.restore(2), BAD_VALUE);
+        due(x.put(packed("r r")), BAD_VALUE);
+        due(x.wipe(), 64);
+    }
+
+    static void theSettingsHaveNumbers() {
+        sentence("`FLOW = 0, HARD = 1, NECK = 2, SILT = 3`: Settings.");
+        due(OxbowReaches.FLOW, 0);
+        due(OxbowReaches.HARD, 1);
+        due(OxbowReaches.NECK, 2);
+        due(OxbowReaches.SILT, 3);
+        OxbowReaches x = new OxbowReaches();
+        due(x.set(OxbowReaches.FLOW, 1), 2);
+        due(x.set(OxbowReaches.HARD, 1), 6);
+        due(x.set(OxbowReaches.NECK, 1), 3);
+        due(x.set(OxbowReaches.SILT, 1), 5);
+    }
+
     static void noneIsOnlyReturnedIfNoErrorApplies() {
         sentence("NONE (-6) is not an error; it is returned only if no error applies.");
         due(OxbowReaches.NONE, -6);

@@ -490,6 +490,32 @@ public final class YearTest extends Checks {
         due(x.pass(1), 1);
     }
 
+    static void theAgeOfANeckThatWasCutStays() {
+        sentence("ages stay as they are in that");
+        // The neck of (5, 8) and (6, 8) is two years older than that below it, to which the river grows down.
+        OxbowReaches x = river("3,10:d2r2urd4r3");
+        x.set(NECK, 5);
+        x.dike(5, 10, true);
+        due(x.pass(3), 0);
+        x.dike(4, 6, true);
+        due(x.count(9), 1);
+        dueNeck(x, 0, 5, 10, 1);
+        dueNeck(x, 1, 6, 9, 3);
+        due(x.pass(2), 1);
+        dueOxbow(x, 0, 2, 1, 5, 9);
+        dueNeck(x, 0, 5, 8, 3);
+        // The river takes the oxbow back, and as old as it was, and a year more, the neck is cut again.
+        due(x.pass(1), 1);
+        dueCounts(x, 8, 2, 2);
+        dueOxbow(x, 0, 2, 1, 5, 9);
+        dueNeck(x, 0, 5, 8, 4);
+        due(x.oxbow(1, 0), NO_SUCH);
+        // A year later the one below is as old as NECK: it is the wider one then.
+        due(x.pass(1), 1);
+        dueCounts(x, 8, 3, 3);
+        dueOxbow(x, 0, 4, 1, 5, 8);
+    }
+
     // ---- silt
 
     private static void dueSiltAt(int years) {
