@@ -6,8 +6,8 @@ public final class AgainstModelTest {
     private static final int RUNS = 1200;
     // Behind the 512th call what an object answers is free.
     private static final int CALLS = 512;
-    // A change may take the calls that put a whole text, 64 of one character each and three more.
-    private static final int CALLS_OF_A_CHANGE = 67;
+    // A change may take the calls that put a whole text, 65 of one character each and four more.
+    private static final int CALLS_OF_A_CHANGE = 69;
     private static final int QUESTIONS_BEHIND_A_CHANGE = 5;
     private static final int MOST_SHOWN = 20;
 
@@ -19,10 +19,12 @@ public final class AgainstModelTest {
     private final OxbowReaches program = new OxbowReaches();
     private final Model model = new Model();
     private final List<String> calls = new ArrayList<>();
+    private final boolean isWet;
 
     private AgainstModelTest(int run) {
         this.run = run;
         this.seed = 1000003L * run + 17;
+        this.isWet = drawYes(25);
     }
 
     public static void main(String[] args) {
@@ -79,6 +81,9 @@ public final class AgainstModelTest {
             putText(course());
             read();
         }
+        if (drawYes(8)) {
+            growOld();
+        }
         while (calls.size() + CALLS_OF_A_CHANGE + QUESTIONS_BEHIND_A_CHANGE <= CALLS && wrong == 0) {
             change();
             for (int k = 0; k < QUESTIONS_BEHIND_A_CHANGE; k++) {
@@ -88,6 +93,18 @@ public final class AgainstModelTest {
         while (calls.size() < CALLS && wrong == 0) {
             ask();
         }
+    }
+
+    /** Brings the river near the last year, which few runs would come to. */
+    private void growOld() {
+        for (int k = 0; k < 19; k++) {
+            pass(50);
+        }
+        pass(draw(30, 49));
+    }
+
+    private void pass(int years) {
+        due(5, "pass " + years, program.pass(years), model.pass(years));
     }
 
     private void read() {
@@ -108,15 +125,15 @@ public final class AgainstModelTest {
             boolean isBuilt = drawYes(60);
             due(2, "dike " + x + " " + y + " " + isBuilt, program.dike(x, y, isBuilt), model.dike(x, y, isBuilt));
         } else if (kind < 36) {
-            int year = drawYes(95) ? model.now.year + draw(-1, 6) : draw(-1, 1001);
-            boolean isFlood = drawYes(70);
-            due(3, "flood " + year + " " + isFlood, program.flood(year, isFlood), model.flood(year, isFlood));
+            int floods = isWet ? draw(1, 4) : 1;
+            for (int k = 0; k < floods; k++) {
+                flood();
+            }
         } else if (kind < 46) {
             int neck = draw(-1, model.now.necks().size());
             due(4, "cut " + neck, program.cut(neck), model.cut(neck));
         } else if (kind < 80) {
-            int years = drawYes(90) ? draw(1, 3) : draw(-1, 51);
-            due(5, "pass " + years, program.pass(years), model.pass(years));
+            pass(drawYes(90) ? draw(1, 3) : draw(-1, 51));
         } else if (kind < 88) {
             due(19, "undo", program.undo(), model.undo());
         } else if (kind < 93) {
@@ -129,6 +146,12 @@ public final class AgainstModelTest {
             putText(course());
             read();
         }
+    }
+
+    private void flood() {
+        int year = drawYes(95) ? model.now.year + draw(-1, isWet ? 16 : 6) : draw(-1, 1001);
+        boolean isFlood = drawYes(70);
+        due(3, "flood " + year + " " + isFlood, program.flood(year, isFlood), model.flood(year, isFlood));
     }
 
     private void changeText() {
@@ -177,6 +200,9 @@ public final class AgainstModelTest {
         if (drawYes(15)) {
             return snake();
         }
+        if (drawYes(15)) {
+            return comb();
+        }
         Model.Cell cell = new Model.Cell(draw(0, 19), draw(0, 11));
         List<Model.Cell> seen = new ArrayList<>(List.of(cell));
         StringBuilder text = new StringBuilder(cell.x() + "," + cell.y() + ":");
@@ -204,11 +230,11 @@ public final class AgainstModelTest {
         return text.toString();
     }
 
-    /** Rows to and fro, close to each other: many necks, and nearly as many cells as a course may have. */
+    /** Rows to and fro, close to each other: many necks, and as many cells as a course may have, or too many. */
     private String snake() {
         int left = draw(0, 3);
         int wide = draw(9, 18 - left);
-        int rows = draw(2, 8);
+        int rows = drawYes(80) ? draw(2, 8) : draw(8, 12);
         StringBuilder text = new StringBuilder(left + "," + draw(0, 3) + ":");
         for (int row = 0; row < rows; row++) {
             String way = row % 2 == 0 ? "r" : "l";
@@ -223,6 +249,20 @@ public final class AgainstModelTest {
         return text.toString();
     }
 
+    /** Narrow loops side by side, there and back: more necks that can be cut one by one than there may be oxbows. */
+    private String comb() {
+        StringBuilder text = new StringBuilder("0," + draw(1, 3) + ":");
+        String loop = drawYes(50) ? "urdr" : "u2rd2r";
+        for (int k = draw(6, 9); k > 0; k--) {
+            text.append(loop);
+        }
+        text.append("u").append(draw(4, 5));
+        for (int k = draw(6, 9); k > 0 && text.length() < 60; k--) {
+            text.append("uldl");
+        }
+        return text.toString();
+    }
+
     private void ask() {
         int kind = draw(100);
         if (kind < 4) {
@@ -233,9 +273,7 @@ public final class AgainstModelTest {
             int what = draw(-1, 2);
             due(14, "nextCut " + what, program.nextCut(what), model.nextCut(what));
         } else if (kind < 10) {
-            int x = draw(-1, 20);
-            int y = draw(-1, 12);
-            due(15, "taken " + x + " " + y, program.taken(x, y), model.taken(x, y));
+            taken();
         } else if (kind < 15) {
             int year = drawYes(95) ? model.now.year + draw(-8, 8) : draw(-1, 1000);
             due(12, "isFlood " + year, program.isFlood(year), model.isFlood(year));
@@ -245,6 +283,17 @@ public final class AgainstModelTest {
         } else {
             askOfAPlace(kind);
         }
+    }
+
+    /** Asks of a bank's cell rather than of one that the river is far from. */
+    private void taken() {
+        List<Model.Bend> bends = model.now.bends();
+        Model.Cell cell = new Model.Cell(draw(-1, 20), draw(-1, 12));
+        if (!bends.isEmpty() && drawYes(60)) {
+            List<Model.Cell> bank = model.now.bank(bends.get(draw(bends.size())));
+            cell = bank.get(draw(bank.size()));
+        }
+        due(15, "taken " + cell, program.taken(cell.x(), cell.y()), model.taken(cell.x(), cell.y()));
     }
 
     private void askOfAPlace(int kind) {
